@@ -40,6 +40,7 @@ public final class RememberedWeight {
     private static final int WEIGHT_OF_BODY = 1000;
     private static final int LIFT_OF_WIND = 10000;
     private static final int BEARING = 1000000;
+    private static final int WEIGHT_TOLD_AT_MOST = 2147483647;
     private static final long EXACT_NUMBERS = 1L << 24;
     private static final int GRAIN_DIGITS = 23;
 
@@ -462,8 +463,7 @@ public final class RememberedWeight {
         if (!hasIsland() || some < 0 || some >= 1 << island.persons) {
             return NONE;
         }
-        island.weigh(now);
-        bridge.stand(now, island.persons);
+        allStandAtTheBridge();
         return asTold(bridge.loadOf(some));
     }
 
@@ -471,8 +471,7 @@ public final class RememberedWeight {
         if (!hasIsland()) {
             return NONE;
         }
-        island.weigh(now);
-        bridge.stand(now, island.persons);
+        allStandAtTheBridge();
         return bridge.mostAtOnce(island.bridge);
     }
 
@@ -480,9 +479,13 @@ public final class RememberedWeight {
         if (!hasIsland()) {
             return NONE;
         }
+        allStandAtTheBridge();
+        return bridge.fewestGoings(island.bridge);
+    }
+
+    private void allStandAtTheBridge() {
         island.weigh(now);
         bridge.stand(now, island.persons);
-        return bridge.fewestGoings(island.bridge);
     }
 
     public int held(int person) {
@@ -800,7 +803,7 @@ public final class RememberedWeight {
     }
 
     private static int asTold(long weight) {
-        return within(weight, 0, Integer.MAX_VALUE);
+        return within(weight, 0, WEIGHT_TOLD_AT_MOST);
     }
 
     private static long rounded(long number) {
@@ -1575,14 +1578,15 @@ public final class RememberedWeight {
         int massOf(int thinker, int kind, int strength) {
             int depth = at(deep, thinker);
             int worth;
-            if (law == null) {
+            Law holding = law;
+            if (holding == null) {
                 int shares = at(letters, Law.AGE) + 1;
                 worth = shares == 0 ? 0 : WORTH_OF_STRENGTH * strength / shares;
             } else {
                 put(letters, Law.STRENGTH, strength);
                 put(letters, Law.KIND, kind);
                 put(letters, Law.DEEP, depth);
-                worth = law.worth(letters);
+                worth = holding.worth(letters);
             }
             return (int) rounded((long) within(worth, 0, WORTH_LIMIT) * depth);
         }
