@@ -83,6 +83,8 @@ public final class ActTest {
         DUE.is("undo", x.undo(), 39);
         DUE.is("undo", x.undo(), 38);
         DUE.is("hours(1)", x.hours(1), 9999);
+        DUE.is("undo", x.undo(), 38);
+        DUE.is("years(1)", x.years(1, 1), 9999);
     }
 
     private static void forgotten() {
@@ -136,6 +138,10 @@ public final class ActTest {
         DUE.is("no place", x.think(0, 1, 0, 1), -1);
         DUE.is("forget", x.forget(0, 1), 2);
         DUE.is("the lowest place", x.think(0, 1, 0, 1), 1);
+        x.hours(4);
+        x.forget(0, 3);
+        DUE.is("the lowest place", x.think(0, 1, 0, 1), 3);
+        DUE.is("AGE is 0 where an older one lay", x.thought(0, 3, 3), 0);
         statuses(x, 0, 0, 0, 1, 0);
         DUE.is("nobody", x.think(3, 0, 0, 1), -1);
         DUE.is("nobody", x.think(0, 3, 0, 1), -1);

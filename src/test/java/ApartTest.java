@@ -98,6 +98,11 @@ public final class ApartTest {
         RememberedWeight z = Due.island("sb1;pb2d1;p;ta1o0s1", "y:999*100");
         DUE.is("just as much", z.goings(), -1);
         DUE.is("the other one", z.together(), 2);
+        DUE.is("1,000,000 alone", Due.island("sb1;pb2d1;pd1;ta1o0s1", "y:998*1000").together(), 1);
+        DUE.is("1,000,001 alone", Due.island("sb1;pb2d1;pb99;pd1;ta2o0s1", "y:998*1000+1").together(), 6);
+        DUE.is("2,000,000", Due.island("sb2;pb2d1;pb2d1;ta1o0;to1", "y:998*1000").together(), 3);
+        DUE.is("2,000,001", Due.island("sb2;pb2d1;pb2d1;ta1o0;to1s1", "y:998*1000+[1/s]").together(), 1);
+        DUE.is("2,000,001", Due.island("sb2;pb2d1;pb2d1;ta1o0;to1s1", "y:998*1000+[1/s]").goings(), 2);
         RememberedWeight none = Due.island("sb1;pd9;pd9;t;ta1o0");
         DUE.is("it bears nobody", none.together(), 0);
         DUE.is("it does not bear somebody", none.goings(), -1);
@@ -127,6 +132,9 @@ public final class ApartTest {
         DUE.is("held(4)", x.held(4), -1);
         DUE.is("held(-1)", x.held(-1), -1);
         DUE.is("by the 10 DEEP alone", x.held(1), 1);
+        DUE.is("one is fewer than two", Due.island("p;pd4;pd5;pd9", law).held(0), 8);
+        DUE.is("two of lower bits, not 0", Due.island("pd4;p;pd5;pd5", law).held(1), 5);
+        DUE.is("not 0, who is too shallow", Due.island("pd1;p;pd9", law).held(1), 4);
         DUE.is("by none", Due.island("p;pd4;pd4", law).held(0), -1);
         DUE.is("all three", Due.island("p;pd3;pd4;pd2", law).held(0), 14);
         DUE.is("no tunes' MIND", Due.island("p;pd4;pd4;pd5m2", law).held(0), -1);
@@ -140,6 +148,15 @@ public final class ApartTest {
         DUE.is("polite", Due.island("p;pd9", "y:k=0&a=0&s=5?9999;y:0").held(0), 2);
         RememberedWeight y = Due.island("p;pd9;pd9", "y:0");
         DUE.is("of no MASS", y.held(0), -1);
+        // what is weighed is weighed now
+        RememberedWeight z = Due.island("p;p;to1k1", "y:k=1?9999*10;y:1");
+        DUE.is("not FLOATING", z.held(1), 0);
+        z.forget(0, 0);
+        DUE.is("FLOATING, by none", z.held(1), -1);
+        DUE.is("shares", z.shares(1, 100), 50);
+        z.undo();
+        DUE.is("shares", z.shares(1, 100), 99);
+        DUE.is("not FLOATING", z.held(1), 0);
     }
 
     private static void eased() {
@@ -152,6 +169,17 @@ public final class ApartTest {
         DUE.is("eased(-1)", x.eased(-1), -1);
         DUE.is("nothing has changed", x.most(7), 4);
         DUE.is("all", Due.island("sg1;p;p;ts2;ts2;ts2").eased(1), 3);
+        DUE.is("most MASS ahead", Due.island("sg10;p;p;ts9;ts1;ts1;ts1").eased(1), 1);
+        DUE.is("most MASS behind", Due.island("sg10;p;p;ts1;ts1;ts1;ts9").eased(1), 1);
+        DUE.is("of this one alone", Due.island("sg1;p;p;p;to2s9;ts1;ts1;to2s9").eased(1), 2);
+        // of several with most MASS the lowest: 3 3 and then the other one is 99,000,006, rounded 99,000,008
+        RememberedWeight z = Due.island("sg99;pd99;pb99;pd1;pd99;ta0o1;ta2o1;ta2o1;ta3o1", "y:d=99?999*1000;y:3");
+        DUE.is("the lowest MIND", z.eased(1), 2);
+        z.forget(0, 0);
+        DUE.is("3 3 ahead", Due.person(z, 1, 3), 99000008);
+        z.undo();
+        z.forget(3, 0);
+        DUE.is("3 3 behind", Due.person(z, 1, 3), 99000000);
         // just 1,000,000 times GROUND is not more
         RememberedWeight y = Due.island("sg1;pd1;pb10d1;t", "y:99*100*100");
         DUE.is("just so", y.eased(1), 0);
@@ -182,6 +210,9 @@ public final class ApartTest {
         DUE.is("AGE 0 ahead of each HOUR", y.odds(0, 2, 100), 1000000000);
         y.hours(1);
         DUE.is("no tune: gone; a tune: AGE 1, of no MASS", y.odds(0, 1, 50), 1000000000);
+        RememberedWeight z = Due.island("pd9;pd9;ta1o0k2", "y:a=2?0;y:9999");
+        z.hours(2);
+        DUE.is("gone without a tune, heavy with one", z.odds(0, 1, 30), 700000000);
         y.law(-1);
         DUE.is("by no LAW it is heavy", y.odds(0, 1, 50), 0);
         for (int wrong : new int[] {-1, 7, Integer.MAX_VALUE}) {
@@ -251,6 +282,10 @@ public final class ApartTest {
         z.forget(0, 0);
         z.forget(0, 1);
         DUE.is("HEAVIEST", z.most(0), 1);
+        DUE.is("DEEPEST", Due.island("pd1;pd2;pd3;pd9;pd8").most(2), 3);
+        DUE.is("THOUGHT OF", Due.island("p;p;p;t;to2;ta2o1").most(3), 1);
+        DUE.is("HEAVIEST", Due.island("pb1;pb2;pb3").most(0), 2);
+        DUE.is("LIGHTEST", Due.island("pb3;pb2;pb1").most(1), 2);
         DUE.is("FLOATING", z.most(4), 15);
     }
 

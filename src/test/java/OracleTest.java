@@ -22,6 +22,9 @@ public final class OracleTest {
         for (int run = 0; run < RUNS; run++) {
             new OracleTest(run).play();
         }
+        for (int run = 0; run < 300; run++) {
+            new OracleTest(run).cross();
+        }
         DUE.finish();
     }
 
@@ -84,6 +87,30 @@ public final class OracleTest {
             drawnCall();
         }
         all();
+    }
+
+    /** Persons of 100,000 .. 900,000 at a bridge that bears few of them. */
+    private void cross() {
+        int persons = from(2, 8);
+        StringBuilder text = new StringBuilder("sb").append(from(1, 2));
+        for (int i = 0; i < persons; i++) {
+            text.append(";pb1d1");
+        }
+        for (int i = 0; i < persons; i++) {
+            text.append(";ta").append((i + 1) % persons).append("o").append(i).append("s").append(from(1, 9));
+        }
+        put(1, "y:1000*s*100-1000");
+        put(0, text.toString());
+        same("law 0", x.law(0) ? 1 : 0, plain.law(0) ? 1 : 0);
+        same("goings", x.goings(), plain.goings());
+        same("together", x.together(), plain.together());
+        for (int some = -1; some <= 1 << persons; some++) {
+            same("load " + some, x.load(some), plain.load(some));
+        }
+        x.hem(0, 1);
+        plain.hem(0, 1);
+        same("goings", x.goings(), plain.goings());
+        same("together", x.together(), plain.together());
     }
 
     /** All that can be asked cheaply. */

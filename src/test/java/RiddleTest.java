@@ -26,6 +26,8 @@ public final class RiddleTest {
         }
         DUE.is("nobody", x.seen(2, 0, 0, true), -1);
         DUE.is("nobody", x.seen(-1, 0, 0, true), -1);
+        DUE.is("v 0", Due.island("p;p").seen(0, 0, 0, true), 1);
+        DUE.is("n 8, v 9,999", Due.island("p;p").seen(1, 8, 9999, false), 1);
         for (int i = 1; i <= 10; i++) {
             DUE.is("seen", x.seen(i % 2, i % 9, 9999, false), i);
             DUE.is("count(6)", x.count(6), i);
@@ -219,6 +221,13 @@ public final class RiddleTest {
         DUE.is("rests", y.rests(0, 1, 2), 22);
         DUE.is("the other way", y.rests(1, 0, 1), 12);
         DUE.is("all alike", Due.island("pm2;pm2").rests(0, 1, -1), 9);
+        // by a LAW by which a THOUGHT of STRENGTH 9 has no MASS nothing matters but what is given up
+        RememberedWeight w = Due.island("sw0;pm1d9;pm2d9;t", "y:s=9?0;y:9999");
+        DUE.is("how many", w.rests(0, 1, -1), 3);
+        DUE.is("rests", w.rests(0, 1, 1), 21);
+        RememberedWeight v = Due.island("sw9;p;pm1;ta1o0;ta1o0");
+        DUE.is("neither by nothing nor by more", v.rests(1, 0, 0), 20);
+        DUE.is("how many", v.rests(1, 0, -1), 2);
     }
 
     private static void nobody() {

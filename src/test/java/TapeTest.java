@@ -47,6 +47,11 @@ public final class TapeTest {
         }
         DUE.is("eighteen", x.feed(-1, -1, -1, -1, 0x01010000), 238);
         DUE.is("too many", x.feed(0x01000000, 0x01, 0, 0, 0x0100), -1);
+        for (int i = 0; i < 5; i++) {
+            int[] n = new int[5];
+            n[i] = 0x00010203;
+            DUE.is("too many in one", x.feed(n[0], n[1], n[2], n[3], n[4]), -1);
+        }
         DUE.is("count(2)", x.count(2), 238);
         DUE.is("just as many", x.feed(0x01000000, 0, 0, 0, 0x0100), 240);
         DUE.is("none more", x.feed(0, 0, 0, 0, 0), 240);
