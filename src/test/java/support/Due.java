@@ -4,6 +4,7 @@ import java.util.NoSuchElementException;
 /** Counts the answers that are not as due, and feeds texts. */
 final class Due {
     static final long THROWS = Long.MIN_VALUE;
+    private static final int MINUTES_AT_MOST = 10;
 
     private final String name;
     private int calls;
@@ -11,6 +12,20 @@ final class Due {
 
     Due(String name) {
         this.name = name;
+        Thread watch = new Thread(this::endLate);
+        watch.setDaemon(true);
+        watch.start();
+    }
+
+    /** A call that does not end is a fault, too: the test fails instead of going on for ever. */
+    private void endLate() {
+        try {
+            Thread.sleep(MINUTES_AT_MOST * 60000L);
+        } catch (InterruptedException e) {
+            return;
+        }
+        System.out.println(name + ": not at its end after " + MINUTES_AT_MOST + " minutes");
+        Runtime.getRuntime().halt(1);
     }
 
     void is(String call, long got, long want) {
