@@ -7,6 +7,7 @@ public final class NumberBoundsTest {
         highestNumbers();
         lowestNumbers();
         numbersBehindEachSign();
+        truths();
         quotients();
         worthHeld();
         largestLaws();
@@ -16,6 +17,7 @@ public final class NumberBoundsTest {
         massesRounded();
         sumsRounded();
         loadsRounded();
+        edges();
         powersOfTwo();
         aroundTwoToThe24();
         weightAsTold();
@@ -95,6 +97,24 @@ public final class NumberBoundsTest {
                 worth("y:" + left + "+" + right + "+9", v + w + 9);
                 worth("y:" + left + "-" + right + "+9", v - w + 9);
                 worth("y:" + left + "/" + right + "+9", (w == 0 ? 0 : v / w) + 9);
+            }
+        }
+    }
+
+    /** ! & | of what holds and what does not, and of what they make. */
+    private static void truths() {
+        String[] units = {"s=5", "s=4", "!s=4", "!s=5", "!!s=5", "(s=5|s=4)", "(s=5&s=4)", "!(s=5&s=4)", "!(s=5|s=4)", "!!!s=4", "s>4", "s<5"};
+        boolean[] so = {true, false, true, false, true, true, false, true, false, true, true, false};
+        for (int i = 0; i < units.length; i++) {
+            worth("y:" + units[i] + "?1;y:2", so[i] ? 1 : 2);
+            for (int j = 0; j < units.length; j++) {
+                worth("y:" + units[i] + "&" + units[j] + "?1;y:2", so[i] && so[j] ? 1 : 2);
+                worth("y:" + units[i] + "|" + units[j] + "?1;y:2", so[i] || so[j] ? 1 : 2);
+                worth("y:!(" + units[i] + "&" + units[j] + ")?1;y:2", so[i] && so[j] ? 2 : 1);
+                for (int k = 0; k < 4; k++) {
+                    worth("y:" + units[k] + "|" + units[i] + "&" + units[j] + "?1;y:2", so[k] || so[i] && so[j] ? 1 : 2);
+                    worth("y:" + units[i] + "&" + units[j] + "|" + units[k] + "?1;y:2", so[k] || so[i] && so[j] ? 1 : 2);
+                }
             }
         }
     }
@@ -240,6 +260,37 @@ public final class NumberBoundsTest {
         }
     }
 
+    /** From a little below each power of two to a little above it: there a number gets one binary digit more. */
+    private static void edges() {
+        for (int digits = 24; digits <= 31; digits++) {
+            long edge = 1L << digits;
+            long sum = 1000;
+            int heavy = 0;
+            while (sum + 99L * LIMIT < edge) {
+                sum = rounded(sum + 99L * LIMIT);
+                heavy++;
+            }
+            int tuned = (int) Math.max(0, (edge - sum - 500000) / 99);
+            sum = rounded(sum + rounded(99L * tuned));
+            int step = digits < 28 ? 1 : 1 << digits - 28;
+            for (int r = -24 * step; r <= 40 * step; r += step) {
+                long little = edge - sum + r;
+                RememberedWeight x = Due.island("pb1;pd99;pd99;pd99;pd99;pd99;pd99;pd1",
+                        "y:s=9?9999*9999;y:s=8?" + number(tuned) + ";y:" + number((int) little));
+                for (int i = 0; i <= heavy; i++) {
+                    x.think(1 + i / 4, 0, 0, i < heavy ? 9 : 8);
+                }
+                x.think(7, 0, 0, 1);
+                long due = rounded(sum + little);
+                String name = "2 to the " + digits + " and " + r;
+                DUE.is(name, Due.person(x, 0, 3), Math.min(due, 2147483647L));
+                int heft = 63 - Long.numberOfLeadingZeros(due);
+                DUE.is("HEFT of " + name, Due.person(x, 0, 4), heft);
+                DUE.is("GRAIN of " + name, Due.person(x, 0, 5), (heft > 23 ? due >> heft - 23 : due << 23 - heft) - (1 << 23));
+            }
+        }
+    }
+
     private static void loadsRounded() {
         for (int first = 1; first <= 40; first++) {
             RememberedWeight x = Due.island("pb1d99;pb" + first + "d99;pb9;to1;ta1o0", "y:9999*16+" + (9000 + 7 * first));
@@ -343,6 +394,15 @@ public final class NumberBoundsTest {
             DUE.is("LOG", x.log(0, 0), due);
             x.hem(1, 1);
             DUE.is("FLOATING with a stone", x.most(4), wind == 0 ? 0 : 8);
+        }
+        for (int wind = 1; wind <= 9; wind++) {
+            for (int less = 0; less <= 2; less++) {
+                RememberedWeight x = Due.island("sw" + wind + ";pd1;pb1;t", "y:" + number(10000 * wind - 1000 - less));
+                DUE.is("WEIGHT", Due.person(x, 1, 3), 10000 * wind - less);
+                DUE.is("FLOATS with " + less + " less", x.most(4) >> 1, less == 0 ? 0 : 1);
+                DUE.is("game", x.game(0, 1, 0, 0, 0), 13 - Due.person(x, 1, 4) + (less == 0 ? 0 : 2));
+                DUE.is("held", x.held(1), less == 0 ? 0 : 1);
+            }
         }
         // 29,999 30,000
         DUE.is("one less", Due.island("pd1;pb1;pd1;t;ta2o1", "y:9999+4500+[s-3]").most(4), 7);

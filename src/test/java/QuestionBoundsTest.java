@@ -18,13 +18,17 @@ public final class QuestionBoundsTest {
         held();
         heldBySome();
         heldInPlaces();
+        heldBesideFullMinds();
         eased();
         easedByMass();
         tenSeen();
         seenBounds();
         allFits();
+        fitsOfEach();
+        fitsAmongOthers();
         fitsAsTold();
         asks();
+        askedOfAll();
         askedByPlace();
         moves();
         rests();
@@ -33,6 +37,7 @@ public final class QuestionBoundsTest {
         shares();
         ofSeveralTheLowest();
         thoughtsAndMinds();
+        lastPlace();
         pairs();
         DUE.finish();
     }
@@ -288,6 +293,20 @@ public final class QuestionBoundsTest {
         DUE.is("not by 1, 2, 5", x.held(7), 1 + 8 + 16);
     }
 
+    /** MINDS 0, 1 are full: what lies in their last places stays there and stays of whom it is. */
+    private static void heldBesideFullMinds() {
+        String full = ";ta0o1".repeat(3) + ";ta1o0".repeat(4);
+        String law = "y:s=5&k=0?7500;y:s=9?9999*3;y:1";
+        // 1,000 and 29,997 of 90,000, and 59,003 to come: eight times 7,500 by those who are 1 2 3 4 1 DEEP
+        RememberedWeight x = Due.island("sw9;pb1d1;pb1d1;pb1d1;pb1d2;pb1d3;pb1d4;pb1d1" + full + ";ta0o2s9", law);
+        DUE.is("WEIGHT", Due.person(x, 2, 3), 30997);
+        DUE.is("held(2) by 2, 3, 4 DEEP", x.held(2), 8 + 16 + 32);
+        // of another one: all it weighs are 1,000
+        RememberedWeight y = Due.island("sw9;pb1d1;pb1d1;pb1d1;pb1d2;pb1d3;pb1d4;pb1d1" + full + ";ta0o6s9", law);
+        DUE.is("held(2) by none", y.held(2), -1);
+        DUE.is("held(6) by 1, 3, 4 DEEP", y.held(6), 4 + 16 + 32);
+    }
+
     /** One who SINKS is eased THOUGHT by THOUGHT until just as much as GROUND is left, or less. */
     private static void eased() {
         for (int thoughts = 0; thoughts <= 28; thoughts += 4) {
@@ -429,27 +448,99 @@ public final class QuestionBoundsTest {
         DUE.is("one more", y.fits(162), -1);
     }
 
-    /** As told at HOUR 0, whatever goes by. */
-    private static void fitsAsTold() {
-        RememberedWeight x = Due.island("sw5;pd1;pd1;t", "y:w*1000+h*100+a*10");
-        // 9,000 and 5,000 and 5,000
-        x.seen(1, 0, 19, true);
-        for (int step = 0; step < 6; step++) {
-            DUE.is("fits behind step " + step, x.fits(-1), 27);
-            DUE.is("fits(0) behind step " + step, x.fits(0), 101);
-            switch (step) {
-                case 0: x.hours(30); break;
-                case 1: x.wind(1); break;
-                case 2: x.think(0, 1, 0, 9); break;
-                case 3: x.hem(1, 9); break;
-                case 4: x.forget(0, 0); break;
-                default: x.image();
+    /** Who weighs more by an unknown one tells of whom it is: of each of eight, by each of the others. */
+    private static void fitsOfEach() {
+        for (int of = 0; of < 8; of++) {
+            for (int n = 0; n <= 8; n += 4) {
+                RememberedWeight x = Due.island(EIGHT, "y:1000");
+                x.seen(of, n, 2, true);
+                DUE.is("fits of " + of, x.fits(-1), 7 * 27);
+                int i = 0;
+                for (int who = 0; who < 8; who++) {
+                    if (who != of) {
+                        DUE.is("the first of " + of + " by " + who, x.fits(27 * i), 1000 * who + 100 * of + 1);
+                        DUE.is("the last of " + of + " by " + who, x.fits(27 * i + 26), 1000 * who + 100 * of + 29);
+                        i++;
+                    }
+                }
+                DUE.is("no more", x.fits(27 * i), -1);
+                x.seen(of, n, 2, false);
+                DUE.is("none", x.fits(-1), 0);
+                // tunes of STRENGTH 9 alone, to the last one
+                RememberedWeight y = Due.island(EIGHT, "y:k=2&s=9?2000;y:1");
+                y.seen(of, n, 3, true);
+                DUE.is("one by each", y.fits(-1), 7);
+                DUE.is("the last one", y.fits(6), (of == 7 ? 6000 : 7000) + 100 * of + 29);
+                y.seen(of, n, 4, true);
+                DUE.is("none", y.fits(-1), 0);
             }
         }
-        x.undo();
-        x.back();
-        DUE.is("fits BACK", x.fits(-1), 27);
-        DUE.is("SEEN stays", x.count(6), 1);
+    }
+
+    /** Told ones of 7 in all MINDS but 5 and 7, four in that of 0, and ones of others: all of 7 and the unknown one count. */
+    private static void fitsAmongOthers() {
+        String told = ";ta0o7".repeat(4) + ";ta1o7;ta2o7;ta3o7;ta4o7;ta6o7;ta1o0;ta7o0;ta7o1";
+        for (int n = 0; n <= 8; n++) {
+            RememberedWeight x = Due.island(EIGHT + told, "y:1000");
+            x.seen(7, n, 10, true);
+            x.seen(7, n, 11, true);
+            DUE.is("of 7 by 1 .. 6", x.fits(-1), 6 * 27);
+            DUE.is("the first", x.fits(0), 1701);
+            DUE.is("the last", x.fits(161), 6729);
+            x.seen(7, n, 12, true);
+            DUE.is("none", x.fits(-1), 0);
+            RememberedWeight y = Due.island(EIGHT + told, "y:1000");
+            y.seen(7, n, 11, false);
+            y.seen(0, n, 4, true);
+            // 1,000 and two of 1,000 and one
+            DUE.is("of 0 by 1 .. 7", y.fits(-1), 7 * 27);
+            DUE.is("the first", y.fits(0), 1001);
+            DUE.is("the last", y.fits(188), 7029);
+            y.seen(0, n, 5, true);
+            DUE.is("none", y.fits(-1), 0);
+        }
+        // as the fourth of the last MIND, behind others or alone
+        for (int n = 0; n <= 8; n++) {
+            RememberedWeight x = Due.island(EIGHT + ";ta7o0;ta7o1;ta7o1", "y:1000+a");
+            x.seen(1, n, 4, true);
+            DUE.is("of 1", x.fits(-1), 7 * 27);
+            DUE.is("in the last place", x.fits(188), 7129);
+            RememberedWeight y = Due.island(EIGHT + ";ta7o0;ta7o1;ta7o1;ta7o1", "y:1000+a");
+            y.seen(1, n, 4, true);
+            DUE.is("four told ones and all by others", y.fits(-1), 7 * 7 * 27);
+            y.seen(1, n, 5, true);
+            DUE.is("of 1, by none of a full MIND", y.fits(-1), 6 * 27);
+        }
+    }
+
+    /** As told at HOUR 0, whatever goes by. */
+    private static void fitsAsTold() {
+        for (int steps = 0; steps <= 8; steps++) {
+            RememberedWeight x = Due.island("sw5;pd1;pd1;t", "y:w*1000+h*100+a*10");
+            for (int step = 0; step < steps; step++) {
+                goOn(x, step);
+            }
+            // 9,000 and 5,000 and 5,000
+            DUE.is("all behind " + steps, x.fits(-1), 54);
+            x.seen(1, 0, 19, true);
+            DUE.is("fits behind " + steps, x.fits(-1), 27);
+            DUE.is("fits(0) behind " + steps, x.fits(0), 101);
+            for (int step = steps; step <= 8; step++) {
+                goOn(x, step);
+                DUE.is("fits from " + steps + " to " + step, x.fits(-1), 27);
+                DUE.is("SEEN stays", x.count(6), 1);
+            }
+        }
+        // by h and by a, behind so many HOURS
+        for (int n = 0; n <= 8; n++) {
+            for (String law : new String[] {"y:1000+1000*h", "y:1000+1000*a", "y:1000+500*h+500*a"}) {
+                RememberedWeight y = Due.island("pd1;pd1", law);
+                y.seen(1, n, 10 + n, true);
+                DUE.is("as much behind " + n + " by " + law, y.fits(-1), 27);
+                y.seen(1, n, 11 + n, true);
+                DUE.is("no more behind " + n + " by " + law, y.fits(-1), 0);
+            }
+        }
         // a told one that is forgotten by then weighs no more, an unknown one neither
         RememberedWeight y = Due.island("pd1;pd1;t", "y:a<3?1000;y:0");
         y.seen(1, 2, 11, true);
@@ -459,6 +550,20 @@ public final class QuestionBoundsTest {
         DUE.is("none there", y.fits(-1), 27);
         y.seen(1, 3, 10, true);
         DUE.is("none there", y.fits(-1), 0);
+    }
+
+    private static void goOn(RememberedWeight x, int step) {
+        switch (step) {
+            case 0: x.hours(30); break;
+            case 1: x.wind(1); break;
+            case 2: x.think(0, 1, 0, 9); break;
+            case 3: x.hem(1, 9); break;
+            case 4: x.forget(0, 0); break;
+            case 5: x.image(); break;
+            case 6: x.undo(); break;
+            case 7: x.years(2, 8); break;
+            default: x.back();
+        }
     }
 
     /** 0 .. 8, of several the least. */
@@ -480,6 +585,37 @@ public final class QuestionBoundsTest {
         DUE.is("behind 5 HOURS", y.ask(1), 5);
         DUE.is("nobody", y.ask(2), -1);
         DUE.is("nobody", y.ask(-1), -1);
+    }
+
+    /** Of all that fit each counts once, those of others as well: how many are of the same HEFT behind 0, 1 .. HOURS. */
+    private static void askedOfAll() {
+        // 18 of 1, 9 of 0: 12 heavy and 15 not, then 14 and 13, then 18 and 9
+        RememberedWeight x = Due.island("pm1d9;pm2d1", "y:a=0&s<7|a=1&s<8|a>1?9999;y:1");
+        DUE.is("14 of 27 are fewer than 15", x.ask(1), 1);
+        // 15 and 12, then 13 and 14: those of others are more than the light ones
+        RememberedWeight y = Due.island("pm1d9;pm2d1", "y:a=0&s<4|a=1&s<3?9999;y:a>1?9999;y:1");
+        DUE.is("18 at last are fewer than 21, 23", y.ask(1), 2);
+        // of 0 in the MIND of 1 none fits; the first one is heavy or not: five and four, then five and four
+        String[] laws = {"y:a=0&s>5?9999;y:a=1&s<6?9999;y:a=8?5000;y:1", "y:a=0&s<5?9999;y:a=1&s<6?9999;y:a=8?5000;y:1",
+            "y:a=0&s>4?9999;y:a=1&s>5?9999;y:a=8?5000;y:1"};
+        for (String law : laws) {
+            RememberedWeight z = Due.island("pm2;p", law);
+            z.seen(0, 8, 10, false);
+            DUE.is("nine", z.fits(-1), 9);
+            DUE.is("five and five", z.ask(1), 0);
+        }
+        // by two who are 99 and 1 DEEP: nine and nine, then ten and eight
+        RememberedWeight w = Due.island("pd99m2;pd1m2;p", "y:a=0?9999;y:a=1&s<6?99/d*1000;y:a=1?99/d;y:5000");
+        w.seen(0, 8, 10, false);
+        w.seen(1, 8, 10, false);
+        DUE.is("of 2 by two", w.fits(-1), 18);
+        DUE.is("nine are fewer than ten", w.ask(2), 0);
+        // nine tunes and eighteen others, then 21 and 6
+        RememberedWeight v = Due.island("pd99m2;pd1m1;p", "y:a=0?9999;y:a=1&s<8?99/d*1000;y:a=1?99/d;y:5000");
+        v.seen(0, 8, 10, false);
+        v.seen(1, 8, 10, false);
+        DUE.is("of 2 by two", v.fits(-1), 27);
+        DUE.is("eighteen are fewer than 21", v.ask(2), 0);
     }
 
     /**
@@ -683,6 +819,43 @@ public final class QuestionBoundsTest {
         for (int wrong : new int[] {-1, 11, Integer.MIN_VALUE, Integer.MAX_VALUE}) {
             DUE.is("no such", y.most(wrong), -1000000);
         }
+    }
+
+    /** The fourth place of the eighth MIND counts as any other one. */
+    private static void lastPlace() {
+        RememberedWeight x = Due.island("sg1w1;pd9;p;p;p;p;p;p;pd99;ta7o1k0;ta7o1k1;ta7o1k1;ta7o0k2s9", "y:k=2&a<3?s*999*100;y:1");
+        DUE.is("of whom", x.thought(7, 3, 0), 0);
+        DUE.is("MASS", x.thought(7, 3, 4), 89010896);
+        DUE.is("WEIGHT", Due.person(x, 0, 3), 89019896);
+        DUE.is("SINKING", x.most(5), 1);
+        DUE.is("eased", x.eased(0), 1);
+        DUE.is("NOBODY'S", x.most(6), 252);
+        DUE.is("FULL", x.most(8), 128);
+        DUE.is("THOUGHTS", x.most(7), 4);
+        DUE.is("fits by others alone", x.fits(-1), 7 * 7 * 27);
+        x.seen(0, 2, 9999, true);
+        DUE.is("heavy behind 2 HOURS", x.fits(-1), 7 * 7 * 27);
+        x.seen(0, 3, 9999, true);
+        DUE.is("light behind 3, but by a tune more", x.fits(-1), 0);
+        DUE.is("odds with tunes", x.odds(0, 3, 100), 0);
+        DUE.is("odds of none", x.odds(0, 3, 0), ALL_PARTS);
+        // without a tune ahead of the second and of the third HOUR
+        DUE.is("odds", x.odds(0, 3, 50), 250000000);
+        x.hours(1);
+        DUE.is("AGE", x.thought(7, 3, 3), 1);
+        for (int place = 0; place < 3; place++) {
+            DUE.is("forget", x.forget(7, place), 1);
+        }
+        DUE.is("OLDEST", x.most(9), 1);
+        DUE.is("THOUGHT OF", x.most(3), 0);
+        DUE.is("NOBODY'S", x.most(6), 254);
+        DUE.is("given up", x.game(7, 0, 2, 0, 1), 13 - 13 + 2);
+        DUE.is("LOG", x.log(0, 2), 4);
+        DUE.is("undo", x.undo(), 3);
+        DUE.is("forget", x.forget(7, 3), 0);
+        DUE.is("forget", x.forget(7, 2), 1);
+        DUE.is("OLDEST of none", x.most(9), -1);
+        DUE.is("lowest", x.think(7, 0, 0, 1), 0);
     }
 
     /** Two count as soon as each thinks of the other one, however often, once. */

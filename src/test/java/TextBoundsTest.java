@@ -142,14 +142,15 @@ public final class TextBoundsTest {
     private static void thoughts() {
         StringBuilder all = new StringBuilder(EIGHT);
         for (int n = 0; n <= 14; n++) {
-            island(all.toString(), n <= 12 ? -1 : EIGHT.length() + 12 * 8 + 1);
+            island(all.toString(), n <= 12 ? -1 : EIGHT.length() + 12 * 10 + 1);
             if (n > 0 && n <= 12) {
                 RememberedWeight x = Due.island(all.toString());
                 DUE.is("THOUGHTS", x.most(7), n);
                 DUE.is("of whom the last one", x.thought((n - 1) % 8, (n - 1) / 8, 0), (n + 2) % 8);
+                DUE.is("KIND of the last one", x.thought((n - 1) % 8, (n - 1) / 8, 1), (n + 1) % 3);
                 DUE.is("STRENGTH of the last one", x.thought((n - 1) % 8, (n - 1) / 8, 2), 1 + (n - 1) % 9);
             }
-            all.append(";ta").append(n % 8).append("o").append((n + 3) % 8).append("s").append(1 + n % 9);
+            all.append(";ta").append(n % 8).append("o").append((n + 3) % 8).append("k").append((n + 2) % 3).append("s").append(1 + n % 9);
         }
         island(times(12, "t;") + "p;p", 27);
         island(times(13, "t;") + "p;p", 24);

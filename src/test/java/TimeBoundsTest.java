@@ -23,6 +23,7 @@ public final class TimeBoundsTest {
         years();
         yearsOfMemory();
         wideSeeds();
+        seedsAgain();
         images();
         imagesOfOthers();
         DUE.finish();
@@ -540,6 +541,26 @@ public final class TimeBoundsTest {
             years(new int[] {0, 0, 0, 0, 0, 0, 0, 0}, 9, 2, 1L << bit);
             years(new int[] {0, 0, 0}, 9, 1, -1L << bit);
             years(new int[] {0, 0, 0}, 9, 1, ~(1L << bit));
+        }
+    }
+
+    /** Each time x is the seed at first, whatever was drawn ahead. */
+    private static void seedsAgain() {
+        RememberedWeight x = Due.island("p;p;p");
+        x.memory(9);
+        for (long seed = 0; seed < 40; seed++) {
+            DUE.is("years(3, " + seed + ")", x.years(3, seed), 3);
+            int wind = x.rule(0);
+            int thoughts = x.most(7);
+            for (int i = 2; i >= 0; i--) {
+                DUE.is("undo", x.undo(), i);
+            }
+            DUE.is("years(3, " + seed + ") again", x.years(3, seed), 3);
+            DUE.is("WIND", x.rule(0), wind);
+            DUE.is("THOUGHTS", x.most(7), thoughts);
+            for (int i = 2; i >= 0; i--) {
+                DUE.is("undo", x.undo(), i);
+            }
         }
     }
 

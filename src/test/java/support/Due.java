@@ -4,7 +4,7 @@ import java.util.NoSuchElementException;
 /** Counts the answers that are not as due, and feeds texts. */
 final class Due {
     static final long THROWS = Long.MIN_VALUE;
-    private static final int MINUTES_AT_MOST = 10;
+    private static final int MINUTES_AT_MOST = 5;
 
     private final String name;
     private int calls;
